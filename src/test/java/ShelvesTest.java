@@ -47,7 +47,9 @@ final class ShelvesTest {
             Check.due("a hundred", x.row(0, sort, 100), 0);
             Check.due("0 at first", x.element(0, 99), 0);
             Check.due("put", x.put(0, 99, 5), 0);
+            Check.due("put", x.put(0, 0, 5), 0);
             Check.due("anew", x.row(0, sort, 100), 0);
+            Check.due("0 at first", x.element(0, 0), 0);
             Check.due("0 at first", x.element(0, 99), 0);
             Check.due("put", x.put(0, 99, 5), 0);
         }

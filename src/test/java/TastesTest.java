@@ -61,6 +61,12 @@ final class TastesTest {
         x = Check.after("p;d009;d049;");
         Check.due("scoured", x.all(0, 0), 0);
         Check.due("scoured", x.all(0, 1), 1);
+        x = Check.after("p;" + "d009;".repeat(11) + "d049;");
+        Check.due("twelve dishes, scoured", x.all(0, 0), 0);
+        Check.due("twelve dishes, scoured", x.all(0, 1), 1);
+        x = Check.after("p;" + "d009;".repeat(10) + "d049;d009;");
+        Check.due("twelve dishes, scoured ahead", x.taste(0, 1, 0), 10);
+        Check.due("twelve dishes, scoured ahead", x.taste(0, 1, 1), 1);
         x = Check.after("p;d009;d009;d009;");
         Check.due("130 / 9", x.all(0, 0), 130);
         Check.due("130 / 9", x.all(0, 1), 9);
@@ -123,34 +129,20 @@ final class TastesTest {
     }
 
     private static void strongests() {
-        ThirdOfTheLast x = Check.after("p;p;p;d019;d117;d101;d245;");
+        ThirdOfTheLast x = Check.after("p;p;p;d019;d117;d101;");
         Check.due("strongest", x.strongest(0), 1);
         Check.due("strongest", x.strongest(1), 3);
         Check.due("of nothing", x.strongest(2), -4);
-        x = Check.after("p;d013;d013;d021;");
-        Check.due("strongest", x.strongest(0), 1);
-        x = Check.after("p;p;d031;d001;d130;");
-        // 2 and two thirds of taste 1 against two thirds of ... 1: 1 + 1/3 ... is told by the model too.
-        Check.due("strongest", x.strongest(0), 1);
-        Check.due("strongest", x.strongest(1), 2);
-        x = Check.after("p;d032;d000;d001;d001;");
-        Check.due("strongest", x.strongest(0), 1);
-        // A fish of figure 0 behind a scouring has 1 of taste 0 and 3 of taste 2; two stews of 2 bring taste 0 up to it.
-        x = Check.after("p;d061;");
-        Check.due("strongest", x.strongest(0), 0);
-        x = Check.after("p;d014;d014;");
-        Check.due("strongest", x.strongest(0), 0);
-        x = Check.after("p;d010;d031;");
-        Check.due("the greatest", x.strongest(0), 2);
-        x = Check.after("p;d050;");
-        // A broth of figure 0: 2, 1, 1, 3.
+        x = Check.after("p;d009;d049;");
+        Check.due("of nothing", x.strongest(0), -4);
+        // A broth of figure 0 has 2, 1, 1, 3; of figure 1 it has 1, 3, 1, 3.
+        x = Check.after("p;p;d050;d151;");
         Check.due("the greatest", x.strongest(0), 3);
-        x = Check.after("p;d052;");
-        // 1, 1, 4, 3.
-        Check.due("the greatest", x.strongest(0), 2);
-        x = Check.after("p;d051;");
-        // 1, 3, 1, 3: of several the least.
-        Check.due("of several the least", x.strongest(0), 1);
+        Check.due("of several the least", x.strongest(1), 1);
+        // A third of 4 of taste 3 and 1 of taste 0; a third of 3 of taste 2 and 1 of taste 0.
+        x = Check.after("p;p;d003;d000;d102;d100;");
+        Check.due("the greatest", x.strongest(0), 3);
+        Check.due("of several the least", x.strongest(1), 0);
     }
 
     private static void harm() {

@@ -25,6 +25,9 @@ final class WhichTest {
         Check.due("another figure", x.mayHave(0, 3, 7, 1), -4);
         Check.due("no tastes", x.mayHave(1, 3, 5, 0), 64);
         Check.due("no tastes", x.mayHave(1, 3, 5, 1), 4);
+        x = Check.after("p;d001;");
+        Check.due("a dish or a bland one", x.mayHave(0, 1, 1, 0), 2);
+        Check.due("a dish or a bland one", x.mayHave(0, 1, 1, 1), 0);
         x = Check.after("p;d063;d020;");
         Check.due("a poison of 3, a stew of 0", x.mayHave(0, 2, 3, 1), -4);
         x = Check.after("p;d063;d053;");
@@ -51,6 +54,10 @@ final class WhichTest {
         // Portions 0 100 0 0, 0 0 100 0, 0 0 0 0.
         Check.due("of several the least", x.tells(0), 1);
         Check.due("of several the least", x.tells(1), 2);
+        x = Check.after("p;p;p;p;p;p;d003;c01;c02;d309;d408;");
+        // Portions of taste 3: 100 of three pots, then 0 of three; of the others 0 of five or six.
+        Check.due("six pots", x.tells(0), 3);
+        Check.due("six pots", x.tells(1), 3);
         x = Check.after("p;p;p;d003;d153;");
         // Taste 3: 100, 6 of 9, 0.
         Check.due("the last taste", x.tells(0), 3);
@@ -142,6 +149,8 @@ final class WhichTest {
             Check.due("all is so", x.judge(0), -4);
             Check.shelve(x, 0, sort, skip, skip, 14, 42, 0, skip, 0, 100);
             Check.due("skipped", x.judge(0), -4);
+            Check.shelve(x, 0, sort, 29, 14, 14, 42, 0, 0, 0, 99);
+            Check.due("the first one", x.judge(0), 0);
             Check.shelve(x, 0, sort, 28, 14, 14, 42, 0, 0, 0, 99);
             Check.due("the last one", x.judge(0), 7);
             Check.shelve(x, 0, sort, 28, 14, skip + 1, 42, 0, 0, 0, 99);
@@ -152,6 +161,11 @@ final class WhichTest {
             Check.due("long", x.judge(0), 8);
             Check.shelve(x, 0, sort, 28, 14, 14, 42, 1, 0, 0, 100, skip);
             Check.due("what isn't so goes ahead", x.judge(0), 4);
+            x = Check.after("p;p;p;p;p;p;");
+            Check.shelve(x, 0, sort, new int[24]);
+            Check.due("six pots", x.judge(0), -4);
+            Check.shelve(x, 0, sort, new int[25]);
+            Check.due("six pots", x.judge(0), 24);
         }
     }
 }
