@@ -95,7 +95,8 @@ public final class ThirdOfTheLast {
     }
 
     public int dish(int pot, int i, int what) {
-        if (!now.has(pot) || isNoHalf(what)) {
+        // DISHES are counted from 0 on: a place below is out of range, one beyond the oldest is none such.
+        if (!now.has(pot) || i < 0 || isNoHalf(what)) {
             return NO_SUCH;
         }
         Pot there = now.pots[pot];

@@ -156,9 +156,14 @@ final class KitchensTest {
         Check.due("oldest", x.dish(0, 1, 1), 7);
         Check.due("none such", x.dish(0, 2, 0), -4);
         Check.due("none such", x.dish(0, 2147483647, 1), -4);
-        Check.due("none such", x.dish(0, -1, 0), -4);
-        Check.due("none such", x.dish(0, -2147483648, 0), -4);
+        Check.due("none such, beyond twelve", x.dish(0, 12, 0), -4);
         Check.due("none at all", x.dish(1, 0, 0), -4);
+        Check.due("a place below 0", x.dish(0, -1, 0), -1);
+        Check.due("a place below 0", x.dish(0, -1, 1), -1);
+        Check.due("a place below 0", x.dish(0, -2147483648, 0), -1);
+        Check.due("a place below 0, none at all", x.dish(1, -1, 0), -1);
+        Check.due("no pot, none such", x.dish(2, 99, 0), -1);
+        Check.due("what, none such", x.dish(0, 99, 2), -1);
         Check.due("pot", x.dish(2, 0, 0), -1);
         Check.due("pot", x.dish(-1, 0, 0), -1);
         Check.due("what", x.dish(0, 0, 2), -1);

@@ -251,11 +251,11 @@ final class Model {
     }
 
     int dish(int pot, int i, int what) {
-        if (noPot(pot) || out(what, 0, 1)) {
+        if (noPot(pot) || i < 0 || out(what, 0, 1)) {
             return -1;
         }
         List<int[]> there = pots.get(pot);
-        return out(i, 0, there.size() - 1) ? -4 : there.get(there.size() - 1 - i)[what];
+        return i >= there.size() ? -4 : there.get(there.size() - 1 - i)[what];
     }
 
     int dishes(int pot) {
