@@ -35,6 +35,8 @@ final class FaceTest {
                 Check.due(m.getName() + " is public alone", m.getModifiers(), Modifier.PUBLIC);
                 shown.add(told(m));
                 names.add(m.getName());
+                Check.isTrue(m.getName() + " says what it throws", told(m.getExceptionTypes()).equals(
+                    m.getName().equals("element") ? "IllegalArgumentException,IllegalStateException" : ""));
             }
         }
         Check.isTrue("the face is " + shown, shown.equals(new TreeSet<>(Set.of(FACE))));
@@ -51,10 +53,14 @@ final class FaceTest {
     }
 
     private static String told(Method m) {
-        StringBuilder text = new StringBuilder(m.getReturnType().getName()).append(' ').append(m.getName()).append('(');
-        for (int i = 0; i < m.getParameterCount(); i++) {
-            text.append(i == 0 ? "" : ",").append(m.getParameterTypes()[i].getName());
+        return m.getReturnType().getName() + ' ' + m.getName() + '(' + told(m.getParameterTypes()) + ')';
+    }
+
+    private static String told(Class<?>[] types) {
+        StringBuilder text = new StringBuilder();
+        for (Class<?> type : types) {
+            text.append(text.length() == 0 ? "" : ",").append(type.getSimpleName());
         }
-        return text.append(')').toString();
+        return text.toString();
     }
 }

@@ -2,8 +2,10 @@ import java.util.Random;
 
 /** Long runs of calls, told by fixed seeds, on the class and on the model: both must answer alike. */
 final class ModelTest {
-    private static final int RUNS = 300;
-    private static final int CALLS = 512;
+    private static final int RUNS = 2000;
+    /** So many calls are promised of one object, and so many a step makes at most. */
+    private static final int PROMISED = 512;
+    private static final int OF_A_STEP = 112;
     private static final int[] WILD = {-2147483648, -2147483647, -129, -128, -2, -1, 4, 5, 8, 10, 12, 13, 15, 16, 99,
         100, 101, 255, 65536, 2147483646, 2147483647};
 
@@ -11,7 +13,7 @@ final class ModelTest {
     private final ThirdOfTheLast x = new ThirdOfTheLast();
     private final Model m = new Model();
     private final int wildness;
-    private String call;
+    private int calls;
 
     private ModelTest(int seed) {
         draws = new Random(seed);
@@ -21,9 +23,11 @@ final class ModelTest {
     public static void main(String[] args) {
         for (int seed = 0; seed < RUNS; seed++) {
             ModelTest run = new ModelTest(seed);
-            for (int i = 0; i < CALLS; i++) {
+            run.begin();
+            while (run.calls <= PROMISED - OF_A_STEP) {
                 run.step();
             }
+            Check.isTrue("no more calls than are promised", run.calls <= PROMISED);
         }
         Check.end("ModelTest");
     }
@@ -45,8 +49,23 @@ final class ModelTest {
     }
 
     private void due(String name, long got, long want) {
-        call = name;
-        Check.due(call, got, want);
+        calls++;
+        Check.due(name, got, want);
+    }
+
+    /** In some runs the pots are there from the start, and some of them nearly full. */
+    private void begin() {
+        int pots = draws.nextInt(3) == 0 ? draws.nextInt(7) : 0;
+        for (int pot = 0; pot < pots; pot++) {
+            due("pot", x.pot(), m.pot());
+            int dishes = draws.nextBoolean() ? 8 + draws.nextInt(5) : draws.nextInt(3);
+            for (int i = 0; i < dishes; i++) {
+                int k = draws.nextInt(8);
+                int f = draws.nextInt(10);
+                due("keep", x.keep(0, 1, k, f), m.keep(0, 1, k, f));
+                due("cook", x.cook(0, pot), m.cook(0, pot));
+            }
+        }
     }
 
     private void step() {

@@ -112,8 +112,8 @@ final class WhichTest {
 
     private static void seeds() {
         ThirdOfTheLast x = new ThirdOfTheLast();
-        // Seed 0: z is 12345, then -1406932606: draws 0 and 11300, a dish of figure 0.
-        Check.due("a dish of figure 0", x.seeded(1, 0, 0), 100);
+        // Seed 0: z is 12345, then -740551042: draws 0 and 21468, a dish of figure 8.
+        Check.due("a dish of figure 8", x.seeded(1, 0, 0), 100);
         for (int n = 1; n <= 12; n++) {
             for (int seed : new int[] {0, 1, -1, 77, 2147483647, -2147483648, 987654321}) {
                 Model model = new Model();
