@@ -956,25 +956,27 @@ public final class ThirdOfTheLast {
         void countWays(Shelf row) {
             ways = 0;
             firstWay = NONE;
-            spread(row, 0, 0);
+            spread(this, row, 0, 0);
         }
 
         /** Counts the ways for the DISHES from this one on; the digits are the POTS of those ahead of it. */
-        private void spread(Shelf row, int dish, int digits) {
+        private static void spread(Mind mind, Shelf row, int dish, int digits) {
             if (2 * dish >= row.size) {
-                firstWay = ways == 0 ? digits : firstWay;
-                ways++;
+                mind.firstWay = mind.ways == 0 ? digits : mind.firstWay;
+                mind.ways++;
                 return;
             }
-            if (dish >= before.length) {
+            if (dish >= mind.before.length) {
                 return;
             }
-            for (int i = 0; i < size; i++) {
-                before[dish].become(pots[i]);
-                if (staysGood(pots[i], row, 2 * dish)) {
-                    spread(row, dish + 1, 10 * digits + i);
+            Flavour before = mind.before[dish];
+            for (int i = 0; i < mind.size; i++) {
+                Flavour pot = mind.pots[i];
+                before.become(pot);
+                if (mind.staysGood(pot, row, 2 * dish)) {
+                    spread(mind, row, dish + 1, 10 * digits + i);
                 }
-                pots[i].become(before[dish]);
+                pot.become(before);
             }
         }
 
